@@ -309,6 +309,8 @@ public final class MachineMover {
         final int[] needB = new int[MOST_WORKS + 1];
         final int[] kind = new int[MOST_WORKS + 1];
         final int[] group = new int[MOST_WORKS + 1];
+        // The bit of a twins' group; of other works no bit.
+        final int[] twinBit = new int[MOST_WORKS + 1];
         final int[] end = new int[MOST_WORKS + 1];
         final int[] block = new int[MOST_WORKS + 1];
         final int[] blockA = new int[MOST_WORKS + 1];
@@ -336,6 +338,7 @@ public final class MachineMover {
             needB[newcomer] = b;
             kind[newcomer] = ofKind;
             group[newcomer] = ofKind == TWIN || ofKind == FRIEND ? g : NONE;
+            twinBit[newcomer] = ofKind == TWIN ? 1 << g : 0;
             end[newcomer] = ofKind == BRIEF ? g : NONE;
             block[newcomer] = ofKind == FRIEND ? leastFriend(g, newcomer) : newcomer;
             return newcomer;
@@ -374,7 +377,7 @@ public final class MachineMover {
         final int[] usedA = new int[MOST_MACHINES];
         final int[] usedB = new int[MOST_MACHINES];
         final int[] standing = new int[MOST_MACHINES];
-        // A bit for each twins' group that has one on the machine.
+        // The bits of the twins' groups that have one on the machine.
         final int[] twins = new int[MOST_MACHINES];
         int occupied = 0;
 
@@ -417,21 +420,21 @@ public final class MachineMover {
             int leader = stock.block[work];
             return stock.needA[work] <= freeA(machine)
                     && stock.needB[work] <= freeB(machine)
-                    && (twins[machine] & twinBit(work)) == 0
+                    && (twins[machine] & stock.twinBit[work]) == 0
                     && (leader == work || at[leader] == machine);
         }
 
         boolean takesBlock(int block, int machine) {
             return stock.blockA[block] <= freeA(machine)
                     && stock.blockB[block] <= freeB(machine)
-                    && (twins[machine] & twinBit(block)) == 0;
+                    && (twins[machine] & stock.twinBit[block]) == 0;
         }
 
         void put(int work, int machine) {
             at[work] = machine;
             usedA[machine] += stock.needA[work];
             usedB[machine] += stock.needB[work];
-            twins[machine] |= twinBit(work);
+            twins[machine] |= stock.twinBit[work];
             if (standing[machine] == 0) {
                 occupied++;
             }
@@ -446,7 +449,7 @@ public final class MachineMover {
             at[work] = NONE;
             usedA[machine] -= stock.needA[work];
             usedB[machine] -= stock.needB[work];
-            twins[machine] &= ~twinBit(work);
+            twins[machine] &= ~stock.twinBit[work];
             standing[machine]--;
             if (standing[machine] == 0) {
                 occupied--;
@@ -493,10 +496,6 @@ public final class MachineMover {
                 }
             }
             return count;
-        }
-
-        private int twinBit(int work) {
-            return stock.kind[work] == TWIN ? 1 << stock.group[work] : 0;
         }
     }
 

@@ -59,7 +59,7 @@ public final class FaceTest {
         String text = Files.readString(Path.of("src/main/java/MachineMover.java"));
         String code = text.replaceAll("(?s)/\\*.*?\\*/", "").replaceAll("//[^\n]*", "");
         Matcher found = Pattern.compile(
-            "\\b(package|import|throw|throws|try|catch|synchronized|assert|protected|native|float|double)\\b|->|::|\\bExact\\b")
+            "\\b(package|import|throw|throws|try|catch|synchronized|assert|protected|native|float|double)\\b|->|::|Exact\\(")
             .matcher(code);
         while (found.find()) {
             failed = true;
