@@ -8,7 +8,7 @@ public final class MachineMover {
     private static final int GROUPS = 4;
     private static final int MOST_TRIES = 200000;
 
-    private static final int TWIN = 1, FRIEND = 2, STUCK = 3, BRIEF = 4;
+    private static final int PLAIN = 0, TWIN = 1, FRIEND = 2, STUCK = 3, BRIEF = 4;
     private static final int EMPTY = 0, ROOM = 1, FEW = 2, NO_GOAL = 3;
 
     private final Stock stock = new Stock();
@@ -269,7 +269,7 @@ public final class MachineMover {
         if (kind == BRIEF) {
             return g > now;
         }
-        return kind >= 0 && kind <= BRIEF;
+        return kind == PLAIN || kind == STUCK;
     }
 
     private boolean isGoal(int goal, int m, int a, int b) {
@@ -308,6 +308,7 @@ public final class MachineMover {
         final int[] needA = new int[MOST_WORKS + 1];
         final int[] needB = new int[MOST_WORKS + 1];
         final int[] kind = new int[MOST_WORKS + 1];
+        // The number of a friends' group; of other works none.
         final int[] group = new int[MOST_WORKS + 1];
         // The bit of a twins' group; of other works no bit.
         final int[] twinBit = new int[MOST_WORKS + 1];
@@ -337,7 +338,7 @@ public final class MachineMover {
             needA[newcomer] = a;
             needB[newcomer] = b;
             kind[newcomer] = ofKind;
-            group[newcomer] = ofKind == TWIN || ofKind == FRIEND ? g : NONE;
+            group[newcomer] = ofKind == FRIEND ? g : NONE;
             twinBit[newcomer] = ofKind == TWIN ? 1 << g : 0;
             end[newcomer] = ofKind == BRIEF ? g : NONE;
             block[newcomer] = ofKind == FRIEND ? leastFriend(g, newcomer) : newcomer;

@@ -1,12 +1,5 @@
 /** What each promise of ../shared/DOC.md asks, by hand: ordinary inputs, edges, wrong inputs. */
-public final class PromiseTest {
-    private static final int NONE = -1, BAD = -2, NO = -3, FULL = -4, SPENT = -5;
-    private static final int PLAIN = 0, TWIN = 1, FRIEND = 2, STUCK = 3, BRIEF = 4;
-    private static final int EMPTY = 0, ROOM = 1, FEW = 2;
-    private static final int HIGH = Integer.MAX_VALUE, LOW = Integer.MIN_VALUE;
-
-    private static int wrong = 0;
-
+public final class PromiseTest extends Checks {
     public static void main(String[] args) {
         newObject();
         constants();
@@ -48,47 +41,7 @@ public final class PromiseTest {
         waitLong();
         count();
         digest();
-        System.out.println(wrong == 0 ? "all promises hold" : wrong + " answers are not as promised");
-        if (wrong != 0) {
-            System.exit(1);
-        }
-    }
-
-    private static void due(String what, long got, long want) {
-        if (got != want) {
-            wrong++;
-            System.out.println(what + ": " + got + ", due is " + want);
-        }
-    }
-
-    /** A mover with machines of two like rooms each. */
-    private static MachineMover machines(int... rooms) {
-        MachineMover x = new MachineMover();
-        for (int k = 0; k < rooms.length; k++) {
-            due("machine " + k, x.machine(rooms[k], rooms[k]), k);
-        }
-        return x;
-    }
-
-    private static void plain(MachineMover x, int need, int machine) {
-        works(x, need, PLAIN, 0, machine);
-    }
-
-    private static void works(MachineMover x, int need, int kind, int g, int machine) {
-        int expected = x.count(1);
-        due("work " + expected, x.work(need, need, kind, g, machine), expected);
-    }
-
-    private static void places(String what, MachineMover x, int... machines) {
-        for (int work = 0; work < machines.length; work++) {
-            due(what + ": about(" + work + ", 0)", x.about(work, 0), machines[work]);
-        }
-    }
-
-    private static void planned(String what, MachineMover x, int... machines) {
-        for (int work = 0; work < machines.length; work++) {
-            due(what + ": planAt(" + work + ")", x.planAt(work), machines[work]);
-        }
+        end();
     }
 
     // Promise 1
@@ -566,17 +519,6 @@ public final class PromiseTest {
         due("17: nothing was made", y.count(6), 0);
     }
 
-    /** Two machines full but for a little, whose works must change places for the goal. */
-    private static MachineMover swap(int first, int second, int large, int small) {
-        MachineMover x = machines(first, second);
-        x.work(large, large, PLAIN, 0, 0);
-        x.work(small, small, PLAIN, 0, 1);
-        x.work(first - large, 0, STUCK, 0, 0);
-        x.work(second - large, 0, STUCK, 0, 1);
-        due("the swap is planned", x.plan(ROOM, 0, large - small, 0), 2);
-        return x;
-    }
-
     // Promise 14
     private static void orderAt() {
         due("14: no plan", machines(10, 10).orderAt(0), NO);
@@ -897,12 +839,5 @@ public final class PromiseTest {
             30, 40, 0, 40, 48, 2);
         due("21: a plan", x.digest(), all);
         due("21: it changes nothing", x.digest(), all);
-    }
-
-    private static long told(long h, int... values) {
-        for (int value : values) {
-            h = 31 * h + value;
-        }
-        return h;
     }
 }
