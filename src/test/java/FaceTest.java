@@ -38,6 +38,15 @@ public final class FaceTest {
         expect("constants", constants, new TreeSet<>(CONSTANTS));
         expect("constructors", MachineMover.class.getConstructors().length, 1);
         expect("final", Modifier.isFinal(MachineMover.class.getModifiers()), true);
+        expect("classes inside, at most twelve", MachineMover.class.getDeclaredClasses().length <= 12, true);
+        shape(MachineMover.class);
+        for (Class<?> inside : MachineMover.class.getDeclaredClasses()) {
+            int modifiers = inside.getModifiers();
+            expect(inside + " is static", Modifier.isStatic(modifiers), true);
+            expect(inside + " is hidden", Modifier.isPublic(modifiers) || Modifier.isProtected(modifiers), false);
+            expect(inside + " has no classes inside", inside.getDeclaredClasses().length, 0);
+            shape(inside);
+        }
         source();
         System.out.println(failed ? "the face or the source is not as told" : "the face and the source are as told");
         if (failed) {
@@ -53,6 +62,22 @@ public final class FaceTest {
         String parameters = Arrays.stream(method.getParameterTypes()).map(Class::getName).reduce((a, b) -> a + ", " + b)
             .orElse("");
         return method.getReturnType().getName() + " " + method.getName() + "(" + parameters + ")";
+    }
+
+    /** What ../shared/LANGUAGE.md says of a class's fields and methods, as far as it can be seen from outside. */
+    private static void shape(Class<?> type) {
+        int fields = 0;
+        for (Field field : type.getDeclaredFields()) {
+            boolean fixed = Modifier.isStatic(field.getModifiers());
+            fields += fixed ? 0 : 1;
+            expect(field + ", if static, is final", fixed && !Modifier.isFinal(field.getModifiers()), false);
+        }
+        expect(type + " has twenty fields at most", fields <= 20, true);
+        for (Method method : type.getDeclaredMethods()) {
+            expect(method + " has seven parameters at most", method.getParameterCount() <= 7, true);
+            boolean bearsFaceName = METHODS.stream().anyMatch(told -> told.contains(" " + method.getName() + "("));
+            expect(method + " bears no name of the face", bearsFaceName && !Modifier.isPublic(method.getModifiers()), false);
+        }
     }
 
     private static void source() throws Exception {
